@@ -8,12 +8,14 @@ final class AnswersTest {
     public static void main(String[] args) {
         emptyBody();
         unsafeRules();
+        unsafeBesideOtherAtoms();
         safeByOneAtom();
         numbersOutside();
         constantsUpToSix();
         sharedUnknowns();
         everyCoupleOfUnknowns();
         threeUnknowns();
+        everyCompletionIsTried();
         joinsOverBothTables();
         repeatedVariables();
         constantsInAtoms();
@@ -65,6 +67,36 @@ final class AnswersTest {
         due.yes("the safe one answers", y.certain(2, 1));
     }
 
+    private static void noAnswers(String name, NaiveNulls x) {
+        due.is(name + ": certainCount", 0, x.certainCount());
+        due.no(name + ": alwaysSome", x.alwaysSome());
+        for (int a = 0; a <= 6; a++) {
+            for (int b = 0; b <= 6; b++) {
+                due.no(name + ": possible(" + a + ", " + b + ")", x.possible(a, b));
+            }
+        }
+    }
+
+    /** Atoms that are gone, or are of the next rule, don't make a rule safe. */
+    private static void unsafeBesideOtherAtoms() {
+        NaiveNulls x = new NaiveNulls();
+        x.addRow(0, 1, 1);
+        x.rule(20, 20);
+        x.atom(0, 20, 21);
+        x.dropRules();
+        x.rule(1, 20);
+        noAnswers("after dropRules", x);
+        NaiveNulls y = new NaiveNulls();
+        y.addRow(0, 1, 1);
+        for (int r = 0; r < 2; r++) {
+            y.rule(2, 20 + r);
+            for (int i = 0; i < 3; i++) {
+                y.atom(0, 21 - r, 21 - r);
+            }
+        }
+        noAnswers("two full unsafe rules", y);
+    }
+
     private static void safeByOneAtom() {
         NaiveNulls x = new NaiveNulls();
         x.addRow(0, 1, 2);
@@ -108,8 +140,8 @@ final class AnswersTest {
             for (int a = 0; a <= 6; a++) {
                 due.yes("possible(2, " + a + ")", x.possible(2, a));
                 due.no("certain(2, " + a + ")", x.certain(2, a));
-                if (a != 2) {
-                    due.no("possible(" + a + ", 2)", x.possible(a, 2));
+                for (int b = 0; b <= 6; b++) {
+                    due.is("possible(" + a + ", " + b + ")", a == 2 ? 1 : 0, x.possible(a, b) ? 1 : 0);
                 }
             }
             due.is("certainCount", 0, x.certainCount());
@@ -174,6 +206,39 @@ final class AnswersTest {
         x.atom(1, 20, 20);
         due.yes("all three may be the same", x.possible(0, 0));
         due.no("or not", x.certain(0, 0));
+    }
+
+    /** One completion alone gives the answer, and it is not passed over. */
+    private static void everyCompletionIsTried() {
+        NaiveNulls x = new NaiveNulls();
+        x.addRow(0, 10, 11);
+        x.addRow(1, 12, 12);
+        for (int n = 0; n < 64; n++) {
+            int p = n % 4;
+            int q = n / 4 % 4;
+            int r = n / 16;
+            x.rule(1, 2);
+            x.atom(0, p, q);
+            x.atom(1, r, r);
+            due.yes("possible with " + p + ", " + q + ", " + r, x.possible(1, 2));
+            due.no("certain with " + p + ", " + q + ", " + r, x.certain(1, 2));
+            x.dropRules();
+        }
+        x.rule(20, 20);
+        x.atom(0, 20, 20);
+        x.atom(1, 20, 20);
+        for (int a = 0; a <= 6; a++) {
+            due.yes("possible with all " + a, x.possible(a, a));
+        }
+        x.dropRules();
+        x.rule(20, 22);
+        x.atom(0, 20, 21);
+        x.atom(1, 22, 22);
+        for (int a = 0; a <= 6; a++) {
+            for (int b = 0; b <= 6; b++) {
+                due.yes("possible(" + a + ", " + b + ")", x.possible(a, b));
+            }
+        }
     }
 
     private static void joinsOverBothTables() {
