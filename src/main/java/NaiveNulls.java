@@ -248,8 +248,9 @@ public final class NaiveNulls {
         }
     }
 
+    // Values and terms were tested when they came in: what isn't a constant is in its range.
     private int completed(int value) {
-        return isUnknown(value) ? given[value - FIRST_UNKNOWN] : value;
+        return value >= FIRST_UNKNOWN ? given[value - FIRST_UNKNOWN] : value;
     }
 
     private boolean isSafe(int rule) {
@@ -257,7 +258,7 @@ public final class NaiveNulls {
     }
 
     private boolean isSafeTerm(int rule, int term) {
-        if (!isVariable(term)) {
+        if (term < FIRST_VARIABLE) {
             return true;
         }
         for (int i = 0; i < atomCount[rule]; i++) {
@@ -301,7 +302,7 @@ public final class NaiveNulls {
     }
 
     private boolean agrees(int term, int constant) {
-        if (!isVariable(term)) {
+        if (term < FIRST_VARIABLE) {
             return term == constant;
         }
         int variable = term - FIRST_VARIABLE;
@@ -318,6 +319,6 @@ public final class NaiveNulls {
     }
 
     private int chosen(int term) {
-        return isVariable(term) ? bound[term - FIRST_VARIABLE] : term;
+        return term < FIRST_VARIABLE ? term : bound[term - FIRST_VARIABLE];
     }
 }
