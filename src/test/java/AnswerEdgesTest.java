@@ -5,29 +5,40 @@ final class AnswerEdgesTest {
     private static final Due due = new Due();
 
     public static void main(String[] args) {
-        callsOfAnObject();
-        constantsOfACompletion();
-        everywhereInBothTables();
-        safeHeadOfConstants();
-        safeEveryVariable();
-        safeSomeAtom();
-        safeItsBody();
-        someSafeRule();
-        oneConstantForAVariable();
-        anyConstantForAVariable();
-        eachAtom();
-        rowOfItsTable();
-        certainInEveryCompletion();
-        possibleInSomeCompletion();
-        certainOutside();
-        certainInside();
-        possibleOutside();
-        possibleInside();
-        numberOfCertain();
-        onlyCertainAreCounted();
-        someAnswerInEvery();
-        notTheSameAnswer();
-        noAnswerAtAll();
+        due.sentence("What it is", "An object is used for at most 512 calls after it has been made",
+                AnswerEdgesTest::callsOfAnObject);
+        due.sentence("Terms", "A COMPLETION gives each of the three unknowns a constant from 0 to 6",
+                AnswerEdgesTest::constantsOfACompletion);
+        due.sentence("Terms", "puts it in place of the unknown everywhere in both tables",
+                AnswerEdgesTest::everywhereInBothTables);
+        due.sentence("Terms, a head without variables", "A rule is SAFE iff every variable of its head [...]",
+                AnswerEdgesTest::safeHeadOfConstants);
+        due.sentence("Terms", "A rule is SAFE iff every variable of its head is in some atom of its body.",
+                AnswerEdgesTest::safeEveryVariable);
+        due.sentence("Terms", "is in some atom", AnswerEdgesTest::safeSomeAtom);
+        due.sentence("Terms", "of its body", AnswerEdgesTest::safeItsBody);
+        due.sentence("Terms", "an ANSWER iff for some safe rule", AnswerEdgesTest::someSafeRule);
+        due.sentence("Terms, one for all its places", "a choice of a constant for each variable",
+                AnswerEdgesTest::oneConstantForAVariable);
+        due.sentence("Terms, any of 0 to 6", "a choice of a constant for each variable",
+                AnswerEdgesTest::anyConstantForAVariable);
+        due.sentence("Terms, over full tables", "each atom becomes a row", AnswerEdgesTest::eachAtom);
+        due.sentence("Terms", "a row of its table", AnswerEdgesTest::rowOfItsTable);
+        due.sentence("Terms", "CERTAIN iff it is an answer in every completion",
+                AnswerEdgesTest::certainInEveryCompletion);
+        due.sentence("Terms", "POSSIBLE iff it is one in some completion", AnswerEdgesTest::possibleInSomeCompletion);
+        due.sentence("Promise 8", "false for numbers outside 0..6", AnswerEdgesTest::certainOutside);
+        due.sentence("Promise 8", "Whether (a, b) is certain", AnswerEdgesTest::certainInside);
+        due.sentence("Promise 9", "false for numbers outside 0..6", AnswerEdgesTest::possibleOutside);
+        due.sentence("Promise 9", "Whether (a, b) is possible", AnswerEdgesTest::possibleInside);
+        due.sentence("Promise 10", "The number of certain couples.", AnswerEdgesTest::numberOfCertain);
+        due.sentence("Promise 10, and of no other", "The number of certain couples.",
+                AnswerEdgesTest::onlyCertainAreCounted);
+        due.sentence("Promise 11", "Whether in every completion there is some answer",
+                AnswerEdgesTest::someAnswerInEvery);
+        due.sentence("Promise 11", "(not necessarily always the same one)", AnswerEdgesTest::notTheSameAnswer);
+        due.sentence("Promise 11, without a rule or a row", "Whether in every completion there is some answer",
+                AnswerEdgesTest::noAnswerAtAll);
         due.end();
     }
 
@@ -60,7 +71,6 @@ final class AnswerEdgesTest {
     }
 
     private static void callsOfAnObject() {
-        due.sentence("What it is", "An object is used for at most 512 calls after it has been made");
         last("addRow(0, 0, 0)", 3, x -> x.addRow(0, 0, 0));
         last("dropRow(1)", 0, x -> x.dropRow(1));
         last("learn(10, 3)", 1, x -> x.learn(10, 3));
@@ -76,7 +86,6 @@ final class AnswerEdgesTest {
     }
 
     private static void constantsOfACompletion() {
-        due.sentence("Terms", "A COMPLETION gives each of the three unknowns a constant from 0 to 6");
         for (int u : Numbers.unknowns()) {
             for (int v : Numbers.unknowns()) {
                 NaiveNulls x = new NaiveNulls();
@@ -91,10 +100,18 @@ final class AnswerEdgesTest {
                 due.is("no couple is certain", 0, x.certainCount());
             }
         }
+        NaiveNulls all = new NaiveNulls();
+        all.addRow(0, 10, 11);
+        all.addRow(1, 12, 12);
+        all.rule(20, 20);
+        all.atom(0, 20, 20);
+        all.atom(1, 20, 20);
+        for (int a = 0; a <= 6; a++) {
+            due.yes("all three: possible(" + a + ", " + a + ")", all.possible(a, a));
+        }
     }
 
     private static void everywhereInBothTables() {
-        due.sentence("Terms", "puts it in place of the unknown everywhere in both tables");
         for (int unknown : Numbers.unknowns()) {
             NaiveNulls x = new NaiveNulls();
             for (int i = 0; i < 4; i++) {
@@ -113,7 +130,6 @@ final class AnswerEdgesTest {
     }
 
     private static void safeHeadOfConstants() {
-        due.sentence("Terms, a head without variables", "A rule is SAFE iff every variable of its head [...]");
         for (int a : new int[] {0, 3}) {
             for (int b : new int[] {0, 3}) {
                 NaiveNulls x = new NaiveNulls();
@@ -138,7 +154,6 @@ final class AnswerEdgesTest {
     }
 
     private static void safeEveryVariable() {
-        due.sentence("Terms", "A rule is SAFE iff every variable of its head is in some atom of its body.");
         for (int v = 20; v <= 23; v++) {
             int other = v == 23 ? 20 : v + 1;
             int[][] heads = {{v, v}, {v, 1}, {1, v}, {v, other}, {other, v}};
@@ -159,7 +174,6 @@ final class AnswerEdgesTest {
     }
 
     private static void safeSomeAtom() {
-        due.sentence("Terms", "is in some atom");
         for (int table : Numbers.tables()) {
             for (int at = 0; at < 3; at++) {
                 for (int side = 0; side < 2; side++) {
@@ -177,7 +191,6 @@ final class AnswerEdgesTest {
     }
 
     private static void safeItsBody() {
-        due.sentence("Terms", "of its body");
         NaiveNulls first = new NaiveNulls();
         first.addRow(0, 1, 1);
         first.rule(2, 20);
@@ -205,7 +218,6 @@ final class AnswerEdgesTest {
     }
 
     private static void someSafeRule() {
-        due.sentence("Terms", "an ANSWER iff for some safe rule");
         int[][] heads = {{0, 1}, {2, 3}, {0, 20}};
         for (int first = 0; first < 3; first++) {
             for (int second = 0; second < 3; second++) {
@@ -222,7 +234,6 @@ final class AnswerEdgesTest {
     }
 
     private static void oneConstantForAVariable() {
-        due.sentence("Terms, one for all its places", "a choice of a constant for each variable");
         NaiveNulls x = new NaiveNulls();
         x.addRow(0, 0, 1);
         x.addRow(0, 2, 2);
@@ -254,7 +265,6 @@ final class AnswerEdgesTest {
     }
 
     private static void anyConstantForAVariable() {
-        due.sentence("Terms, any of 0 to 6", "a choice of a constant for each variable");
         NaiveNulls x = new NaiveNulls();
         x.addRow(0, 10, 10);
         x.rule(20, 23);
@@ -275,7 +285,6 @@ final class AnswerEdgesTest {
     }
 
     private static void eachAtom() {
-        due.sentence("Terms, over full tables", "each atom becomes a row");
         for (int at = 0; at < 5; at++) {
             NaiveNulls x = new NaiveNulls();
             for (int i = 0; i < 5; i++) {
@@ -304,30 +313,35 @@ final class AnswerEdgesTest {
     }
 
     private static void rowOfItsTable() {
-        due.sentence("Terms", "a row of its table");
         for (int table : Numbers.tables()) {
             NaiveNulls x = new NaiveNulls();
             for (int i = 0; i < 5; i++) {
-                x.addRow(1 - table, i % 4, 12);
+                x.addRow(1 - table, 2, 2);
             }
             x.rule(0, 0);
             x.atom(table, 20, 21);
-            noneAlways("an atom over the empty table " + table, x);
-            due.no("possible over the empty table " + table, x.possible(0, 0));
+            due.no("an atom over the empty table " + table, x.possible(0, 0));
             x.addRow(table, 2, 1);
-            due.yes("an atom over one row of table " + table, x.certain(0, 0));
-            x.atom(table, 2, 2);
-            due.no("a row of the other table is none of this", x.possible(0, 0));
-            x.dropRules();
-            x.rule(0, 0);
-            x.atom(table, 1, 2);
-            due.no("a row is not turned", x.possible(0, 0));
+            due.yes("an atom over the only row of table " + table, x.certain(0, 0));
+            constantAtom(x, table, 2, 1);
+            due.yes("the row of table " + table, x.certain(0, 0));
+            constantAtom(x, 1 - table, 2, 1);
+            due.no("the other table has it not", x.possible(0, 0));
+            constantAtom(x, table, 2, 2);
+            due.no("a row of the other table", x.possible(0, 0));
+            constantAtom(x, table, 1, 2);
+            due.no("the row turned", x.possible(0, 0));
             x.dropRow(table);
-            x.dropRules();
-            x.rule(0, 0);
-            x.atom(table, 2, 1);
-            due.no("a row that was dropped is none", x.possible(0, 0));
+            constantAtom(x, table, 2, 1);
+            due.no("the row dropped", x.possible(0, 0));
         }
+    }
+
+    /** Puts one rule in place of all: (0, 0) is an answer iff the couple is a row of the table. */
+    private static void constantAtom(NaiveNulls x, int table, int a, int b) {
+        x.dropRules();
+        x.rule(0, 0);
+        x.atom(table, a, b);
     }
 
     /** The query answers (3, 3) in all completions but the six that give 4, 5 and 6 to the unknowns. */
@@ -348,7 +362,6 @@ final class AnswerEdgesTest {
     }
 
     private static void certainInEveryCompletion() {
-        due.sentence("Terms", "CERTAIN iff it is an answer in every completion");
         NaiveNulls x = allButSix();
         due.no("337 of 343", x.certain(3, 3));
         due.yes("337 of 343: possible", x.possible(3, 3));
@@ -371,7 +384,6 @@ final class AnswerEdgesTest {
     }
 
     private static void possibleInSomeCompletion() {
-        due.sentence("Terms", "POSSIBLE iff it is one in some completion");
         NaiveNulls x = new NaiveNulls();
         x.addRow(0, 10, 11);
         x.addRow(1, 12, 12);
@@ -427,7 +439,6 @@ final class AnswerEdgesTest {
     }
 
     private static void certainOutside() {
-        due.sentence("Promise 8", "false for numbers outside 0..6");
         for (int wrong : Numbers.outside(Numbers.constants())) {
             NaiveNulls x = allCertain();
             for (int right : Numbers.constants()) {
@@ -446,7 +457,6 @@ final class AnswerEdgesTest {
     }
 
     private static void certainInside() {
-        due.sentence("Promise 8", "Whether (a, b) is certain");
         NaiveNulls x = allCertain();
         for (int n = 0; n < 49; n++) {
             boolean there = n / 7 <= 3 && n % 7 <= 3;
@@ -459,7 +469,6 @@ final class AnswerEdgesTest {
     }
 
     private static void possibleOutside() {
-        due.sentence("Promise 9", "false for numbers outside 0..6");
         for (int wrong : Numbers.outside(Numbers.constants())) {
             NaiveNulls x = allPossible();
             for (int right : Numbers.constants()) {
@@ -474,7 +483,6 @@ final class AnswerEdgesTest {
     }
 
     private static void possibleInside() {
-        due.sentence("Promise 9", "Whether (a, b) is possible");
         NaiveNulls x = allPossible();
         for (int n = 0; n < 49; n++) {
             due.yes("possible(" + n / 7 + ", " + n % 7 + ")", x.possible(n / 7, n % 7));
@@ -487,7 +495,6 @@ final class AnswerEdgesTest {
     }
 
     private static void numberOfCertain() {
-        due.sentence("Promise 10", "The number of certain couples.");
         for (int k = 0; k <= 4; k++) {
             for (int m = 0; m <= 4; m++) {
                 NaiveNulls x = new NaiveNulls();
@@ -510,7 +517,6 @@ final class AnswerEdgesTest {
     }
 
     private static void onlyCertainAreCounted() {
-        due.sentence("Promise 10, and of no other", "The number of certain couples.");
         due.is("no rules", 0, new NaiveNulls().certainCount());
         due.is("possible ones alone", 0, allPossible().certainCount());
         due.is("one that some completions have not", 0, allButSix().certainCount());
@@ -528,7 +534,6 @@ final class AnswerEdgesTest {
     }
 
     private static void someAnswerInEvery() {
-        due.sentence("Promise 11", "Whether in every completion there is some answer");
         NaiveNulls x = allButSix();
         due.no("337 of 343", x.alwaysSome());
         x.addRow(0, 2, 2);
@@ -542,7 +547,6 @@ final class AnswerEdgesTest {
     }
 
     private static void notTheSameAnswer() {
-        due.sentence("Promise 11", "(not necessarily always the same one)");
         due.yes("any of 49", allPossible().alwaysSome());
         due.is("none of which is certain", 0, allPossible().certainCount());
         for (int unknown : Numbers.unknowns()) {
@@ -556,7 +560,6 @@ final class AnswerEdgesTest {
     }
 
     private static void noAnswerAtAll() {
-        due.sentence("Promise 11, without a rule or a row", "Whether in every completion there is some answer");
         NaiveNulls x = new NaiveNulls();
         due.no("new", x.alwaysSome());
         x.addRow(0, 0, 0);

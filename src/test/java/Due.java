@@ -3,29 +3,33 @@ final class Due {
     private int wrong = 0;
     private int asked = 0;
     private int sentences = 0;
-    private int askedBefore = 0;
     private String sentence = "";
 
-    /** Begins the test of one sentence of the document: a wrong answer is told with it. */
-    void sentence(String where, String words) {
-        endSentence();
+    /** Runs the test of one sentence of the document: what goes wrong in it is told with the sentence. */
+    void sentence(String where, String words, Runnable test) {
+        int askedBefore = asked;
         sentences++;
         sentence = where + " '" + words + "': ";
+        try {
+            test.run();
+        } catch (RuntimeException thrown) {
+            fail("threw " + thrown);
+        }
+        if (asked == askedBefore) {
+            fail("nothing was asked");
+        }
+        sentence = "";
     }
 
-    private void endSentence() {
-        if (sentences > 0 && asked == askedBefore) {
-            wrong++;
-            System.out.println(sentence + "nothing was asked");
-        }
-        askedBefore = asked;
+    private void fail(String what) {
+        wrong++;
+        System.out.println(sentence + what);
     }
 
     void is(String call, long want, long got) {
         asked++;
         if (got != want) {
-            wrong++;
-            System.out.println(sentence + call + " answered " + got + ", due is " + want);
+            fail(call + " answered " + got + ", due is " + want);
         }
     }
 
@@ -40,15 +44,13 @@ final class Due {
     void same(String call, String want, String got) {
         asked++;
         if (!got.equals(want)) {
-            wrong++;
-            System.out.println(sentence + call + " left" + System.lineSeparator() + got + "due is"
-                    + System.lineSeparator() + want);
+            String newLine = System.lineSeparator();
+            fail(call + " left" + newLine + got + "due is" + newLine + want);
         }
     }
 
     /** Ends the test: exit code 1 if an answer was wrong, or if nothing was asked. */
     void end() {
-        endSentence();
         String of = sentences > 0 ? sentences + " sentences, " : "";
         System.out.println(of + asked + " answers, " + wrong + " not as due");
         if (wrong != 0 || asked == 0) {

@@ -5,30 +5,35 @@ final class RuleEdgesTest {
     private static final Due due = new Due();
 
     public static void main(String[] args) {
-        upToTwoRules();
-        upToThreeAtoms();
-        termsOfAHead();
-        termsOfAnAtom();
-        ruleHead();
-        ruleEmptyBody();
-        ruleWrongX();
-        ruleWrongY();
-        ruleFull();
-        ruleNumber();
-        atomLatest();
-        atomWrongTable();
-        atomWrongX();
-        atomWrongY();
-        atomNone();
-        atomFull();
-        atomNumber();
-        dropRulesAll();
-        dropRulesNumber();
-        addRowBadBeforeFull();
-        ruleBadBeforeFull();
-        atomBadBeforeNone();
-        atomBadBeforeFull();
-        atomNoneBeforeFull();
+        due.sentence("Terms", "A QUERY is a list of up to 2 rules.", RuleEdgesTest::upToTwoRules);
+        due.sentence("Terms", "a body, a list of up to 3 atoms", RuleEdgesTest::upToThreeAtoms);
+        due.sentence("Terms, in a head", "A TERM is a constant from 0 to 3 or a variable, 20 to 23.",
+                RuleEdgesTest::termsOfAHead);
+        due.sentence("Terms, in an atom", "A TERM is a constant from 0 to 3 or a variable, 20 to 23.",
+                RuleEdgesTest::termsOfAnAtom);
+        due.sentence("Promise 5", "Begins a new rule with this head", RuleEdgesTest::ruleHead);
+        due.sentence("Promise 5", "and an empty body", RuleEdgesTest::ruleEmptyBody);
+        due.sentence("Promise 5", "x [...] neither 0 to 3 nor 20 to 23: BAD", RuleEdgesTest::ruleWrongX);
+        due.sentence("Promise 5", "or y neither 0 to 3 nor 20 to 23: BAD", RuleEdgesTest::ruleWrongY);
+        due.sentence("Promise 5", "2 rules are there: FULL", RuleEdgesTest::ruleFull);
+        due.sentence("Promise 5", "Else answers the number of rules.", RuleEdgesTest::ruleNumber);
+        due.sentence("Promise 6", "Adds an atom to the latest rule.", RuleEdgesTest::atomLatest);
+        due.sentence("Promise 6", "table outside 0..1 [...]: BAD", RuleEdgesTest::atomWrongTable);
+        due.sentence("Promise 6", "x [...] neither 0 to 3 nor 20 to 23: BAD", RuleEdgesTest::atomWrongX);
+        due.sentence("Promise 6", "or y neither 0 to 3 nor 20 to 23: BAD", RuleEdgesTest::atomWrongY);
+        due.sentence("Promise 6", "there is no rule: NONE", RuleEdgesTest::atomNone);
+        due.sentence("Promise 6", "its body has 3 atoms: FULL", RuleEdgesTest::atomFull);
+        due.sentence("Promise 6", "Else answers its number of atoms.", RuleEdgesTest::atomNumber);
+        due.sentence("Promise 7", "Takes all rules away", RuleEdgesTest::dropRulesAll);
+        due.sentence("Promise 7", "answers how many there were", RuleEdgesTest::dropRulesNumber);
+        due.sentence("Promise 12", "addRow [...]: BAD is tested before FULL", RuleEdgesTest::addRowBadBeforeFull);
+        due.sentence("Promise 12", "[...] rule: BAD is tested before FULL", RuleEdgesTest::ruleBadBeforeFull);
+        due.sentence("Promise 12", "atom: BAD, NONE [...] are tested in this order",
+                RuleEdgesTest::atomBadBeforeNone);
+        due.sentence("Promise 12", "atom: BAD, [...] and FULL are tested in this order",
+                RuleEdgesTest::atomBadBeforeFull);
+        due.sentence("Promise 12", "atom: [...] NONE and FULL are tested in this order",
+                RuleEdgesTest::atomNoneBeforeFull);
         due.end();
     }
 
@@ -67,7 +72,6 @@ final class RuleEdgesTest {
     }
 
     private static void upToTwoRules() {
-        due.sentence("Terms", "A QUERY is a list of up to 2 rules.");
         NaiveNulls x = new NaiveNulls();
         due.is("no rule: certainCount", 0, x.certainCount());
         x.rule(0, 1);
@@ -81,7 +85,6 @@ final class RuleEdgesTest {
     }
 
     private static void upToThreeAtoms() {
-        due.sentence("Terms", "a body, a list of up to 3 atoms");
         for (int missing = 0; missing <= 3; missing++) {
             NaiveNulls x = new NaiveNulls();
             for (int i = 0; i < 3; i++) {
@@ -101,7 +104,6 @@ final class RuleEdgesTest {
     }
 
     private static void termsOfAHead() {
-        due.sentence("Terms, in a head", "A TERM is a constant from 0 to 3 or a variable, 20 to 23.");
         for (int x : new int[] {0, 3, 20, 23}) {
             for (int y : new int[] {0, 3, 20, 23}) {
                 NaiveNulls n = new NaiveNulls();
@@ -121,7 +123,6 @@ final class RuleEdgesTest {
     }
 
     private static void termsOfAnAtom() {
-        due.sentence("Terms, in an atom", "A TERM is a constant from 0 to 3 or a variable, 20 to 23.");
         for (int table : Numbers.tables()) {
             for (int x : new int[] {0, 3, 20, 23}) {
                 for (int y : new int[] {0, 3, 20, 23}) {
@@ -143,7 +144,6 @@ final class RuleEdgesTest {
     }
 
     private static void ruleHead() {
-        due.sentence("Promise 5", "Begins a new rule with this head");
         for (int before = 0; before <= 1; before++) {
             for (int a : Numbers.written()) {
                 for (int b : Numbers.written()) {
@@ -160,7 +160,6 @@ final class RuleEdgesTest {
     }
 
     private static void ruleEmptyBody() {
-        due.sentence("Promise 5", "and an empty body");
         NaiveNulls x = new NaiveNulls();
         x.rule(0, 0);
         due.yes("the first rule needs no row", x.certain(0, 0));
@@ -187,7 +186,6 @@ final class RuleEdgesTest {
     }
 
     private static void ruleWrongX() {
-        due.sentence("Promise 5", "x [...] neither 0 to 3 nor 20 to 23: BAD");
         int[] wrong = Numbers.outside(Numbers.terms());
         Consumer<NaiveNulls> calls = x -> {
             for (int term : wrong) {
@@ -200,7 +198,6 @@ final class RuleEdgesTest {
     }
 
     private static void ruleWrongY() {
-        due.sentence("Promise 5", "or y neither 0 to 3 nor 20 to 23: BAD");
         int[] wrong = Numbers.outside(Numbers.terms());
         Consumer<NaiveNulls> calls = x -> {
             for (int term : wrong) {
@@ -213,7 +210,6 @@ final class RuleEdgesTest {
     }
 
     private static void ruleFull() {
-        due.sentence("Promise 5", "2 rules are there: FULL");
         NaiveNulls x = new NaiveNulls();
         due.is("first rule", 1, x.rule(0, 0));
         due.is("second rule", 2, x.rule(0, 0));
@@ -227,7 +223,6 @@ final class RuleEdgesTest {
     }
 
     private static void ruleNumber() {
-        due.sentence("Promise 5", "Else answers the number of rules.");
         NaiveNulls x = new NaiveNulls();
         due.is("first rule", 1, x.rule(20, 21));
         x.atom(0, 20, 21);
@@ -240,7 +235,6 @@ final class RuleEdgesTest {
     }
 
     private static void atomLatest() {
-        due.sentence("Promise 6", "Adds an atom to the latest rule.");
         NaiveNulls x = new NaiveNulls();
         x.rule(0, 0);
         x.atom(0, 20, 21);
@@ -267,7 +261,6 @@ final class RuleEdgesTest {
     }
 
     private static void atomWrongTable() {
-        due.sentence("Promise 6", "table outside 0..1 [...]: BAD");
         int[] wrong = Numbers.outside(Numbers.tables());
         Consumer<NaiveNulls> calls = x -> {
             for (int table : wrong) {
@@ -279,7 +272,6 @@ final class RuleEdgesTest {
     }
 
     private static void atomWrongX() {
-        due.sentence("Promise 6", "x [...] neither 0 to 3 nor 20 to 23: BAD");
         int[] wrong = Numbers.outside(Numbers.terms());
         for (int table : Numbers.tables()) {
             Consumer<NaiveNulls> calls = x -> {
@@ -293,7 +285,6 @@ final class RuleEdgesTest {
     }
 
     private static void atomWrongY() {
-        due.sentence("Promise 6", "or y neither 0 to 3 nor 20 to 23: BAD");
         int[] wrong = Numbers.outside(Numbers.terms());
         for (int table : Numbers.tables()) {
             Consumer<NaiveNulls> calls = x -> {
@@ -307,7 +298,6 @@ final class RuleEdgesTest {
     }
 
     private static void atomNone() {
-        due.sentence("Promise 6", "there is no rule: NONE");
         for (int table : Numbers.tables()) {
             due.is("new", -3, new NaiveNulls().atom(table, 0, 20));
             NaiveNulls x = new NaiveNulls();
@@ -325,7 +315,6 @@ final class RuleEdgesTest {
     }
 
     private static void atomFull() {
-        due.sentence("Promise 6", "its body has 3 atoms: FULL");
         NaiveNulls x = new NaiveNulls();
         for (int rules = 1; rules <= 2; rules++) {
             x.rule(0, 0);
@@ -348,7 +337,6 @@ final class RuleEdgesTest {
     }
 
     private static void atomNumber() {
-        due.sentence("Promise 6", "Else answers its number of atoms.");
         NaiveNulls x = new NaiveNulls();
         x.rule(0, 0);
         due.is("first atom", 1, x.atom(0, 0, 0));
@@ -362,7 +350,6 @@ final class RuleEdgesTest {
     }
 
     private static void dropRulesAll() {
-        due.sentence("Promise 7", "Takes all rules away");
         for (int rules = 0; rules <= 2; rules++) {
             NaiveNulls x = new NaiveNulls();
             for (int i = 0; i < rules; i++) {
@@ -382,7 +369,6 @@ final class RuleEdgesTest {
     }
 
     private static void dropRulesNumber() {
-        due.sentence("Promise 7", "answers how many there were");
         NaiveNulls x = new NaiveNulls();
         due.is("none", 0, x.dropRules());
         x.rule(20, 20);
@@ -402,7 +388,6 @@ final class RuleEdgesTest {
     }
 
     private static void addRowBadBeforeFull() {
-        due.sentence("Promise 12", "addRow [...]: BAD is tested before FULL");
         NaiveNulls x = new NaiveNulls();
         for (int i = 0; i < 5; i++) {
             x.addRow(0, 0, 0);
@@ -420,7 +405,6 @@ final class RuleEdgesTest {
     }
 
     private static void ruleBadBeforeFull() {
-        due.sentence("Promise 12", "[...] rule: BAD is tested before FULL");
         NaiveNulls x = new NaiveNulls();
         x.rule(0, 0);
         x.rule(0, 0);
@@ -441,7 +425,6 @@ final class RuleEdgesTest {
     }
 
     private static void atomBadBeforeNone() {
-        due.sentence("Promise 12", "atom: BAD, NONE [...] are tested in this order");
         NaiveNulls x = new NaiveNulls();
         wrongAtoms("new", x);
         due.is("new: atom(0, 0, 0)", -3, x.atom(0, 0, 0));
@@ -452,7 +435,6 @@ final class RuleEdgesTest {
     }
 
     private static void atomBadBeforeFull() {
-        due.sentence("Promise 12", "atom: BAD, [...] and FULL are tested in this order");
         NaiveNulls x = new NaiveNulls();
         for (int rules = 1; rules <= 2; rules++) {
             x.rule(0, 0);
@@ -466,7 +448,6 @@ final class RuleEdgesTest {
 
     /** No rule can be both absent and full: NONE is due even where the rules that are gone were full. */
     private static void atomNoneBeforeFull() {
-        due.sentence("Promise 12", "atom: [...] NONE and FULL are tested in this order");
         for (int rules = 1; rules <= 2; rules++) {
             NaiveNulls x = new NaiveNulls();
             for (int n = 0; n < 3 * rules; n++) {

@@ -5,30 +5,31 @@ final class TableEdgesTest {
     private static final Due due = new Due();
 
     public static void main(String[] args) {
-        twoTables();
-        upToFiveRows();
-        constantsInRows();
-        sameUnknown();
-        newTables();
-        newRules();
-        atTheEnd();
-        addRowWrongTable();
-        addRowWrongX();
-        addRowWrongY();
-        addRowEdgesOfX();
-        addRowEdgesOfY();
-        addRowFull();
-        addRowNumber();
-        equalRows();
-        firstRow();
-        rowsLeft();
-        dropRowWrongTable();
-        dropRowEmpty();
-        learnEdges();
-        learnEverywhere();
-        learnWrongUnknown();
-        learnWrongConstant();
-        learnPlaces();
+        due.sentence("Terms", "There are two tables, 0 and 1", TableEdgesTest::twoTables);
+        due.sentence("Terms", "each a list of up to 5 rows", TableEdgesTest::upToFiveRows);
+        due.sentence("Terms", "the constants in rows are 0 to 3 only", TableEdgesTest::constantsInRows);
+        due.sentence("Terms", "The same unknown may stand in several places", TableEdgesTest::sameUnknown);
+        due.sentence("Promise 1", "Empty tables", TableEdgesTest::newTables);
+        due.sentence("Promise 1", "no rules", TableEdgesTest::newRules);
+        due.sentence("Promise 2", "Adds a row at the end of a table.", TableEdgesTest::atTheEnd);
+        due.sentence("Promise 2", "table outside 0..1 [...]: BAD", TableEdgesTest::addRowWrongTable);
+        due.sentence("Promise 2", "x [...] neither 0 to 3 nor 10 to 12: BAD", TableEdgesTest::addRowWrongX);
+        due.sentence("Promise 2", "or y neither 0 to 3 nor 10 to 12: BAD", TableEdgesTest::addRowWrongY);
+        due.sentence("Promise 2, what is taken", "x [...] 0 to 3 [...] 10 to 12", TableEdgesTest::addRowEdgesOfX);
+        due.sentence("Promise 2, what is taken", "y [...] 0 to 3 [...] 10 to 12", TableEdgesTest::addRowEdgesOfY);
+        due.sentence("Promise 2", "5 rows are there: FULL", TableEdgesTest::addRowFull);
+        due.sentence("Promise 2", "Else answers the table's number of rows.", TableEdgesTest::addRowNumber);
+        due.sentence("Promise 2", "(Equal rows may be there more than once.)", TableEdgesTest::equalRows);
+        due.sentence("Promise 3", "Takes the first row of a table away", TableEdgesTest::firstRow);
+        due.sentence("Promise 3", "answers the number of rows left", TableEdgesTest::rowsLeft);
+        due.sentence("Promise 3", "table outside 0..1 [...]: BAD", TableEdgesTest::dropRowWrongTable);
+        due.sentence("Promise 3", "or the table is empty: BAD", TableEdgesTest::dropRowEmpty);
+        due.sentence("Promise 4", "Puts a constant from 0 to 3 in place of an unknown", TableEdgesTest::learnEdges);
+        due.sentence("Promise 4", "everywhere in both tables", TableEdgesTest::learnEverywhere);
+        due.sentence("Promise 4", "unknown outside 10..12 [...]: BAD", TableEdgesTest::learnWrongUnknown);
+        due.sentence("Promise 4", "or constant outside 0..3: BAD", TableEdgesTest::learnWrongConstant);
+        due.sentence("Promise 4", "Else answers the number of places that had the unknown.",
+                TableEdgesTest::learnPlaces);
         due.end();
     }
 
@@ -69,7 +70,6 @@ final class TableEdgesTest {
     }
 
     private static void twoTables() {
-        due.sentence("Terms", "There are two tables, 0 and 1");
         NaiveNulls x = reader(0);
         due.is("addRow(0, 1, 2)", 1, x.addRow(0, 1, 2));
         due.is("addRow(1, 2, 1)", 1, x.addRow(1, 2, 1));
@@ -80,7 +80,6 @@ final class TableEdgesTest {
     }
 
     private static void upToFiveRows() {
-        due.sentence("Terms", "each a list of up to 5 rows");
         int[] xs = {0, 1, 2, 3, 0};
         for (int table : Numbers.tables()) {
             NaiveNulls x = reader(table);
@@ -97,7 +96,6 @@ final class TableEdgesTest {
     }
 
     private static void constantsInRows() {
-        due.sentence("Terms", "the constants in rows are 0 to 3 only");
         NaiveNulls x = reader(0);
         for (int constant = 4; constant <= 6; constant++) {
             due.is("addRow(0, " + constant + ", 0)", -1, x.addRow(0, constant, 0));
@@ -110,7 +108,6 @@ final class TableEdgesTest {
     }
 
     private static void sameUnknown() {
-        due.sentence("Terms", "The same unknown may stand in several places");
         for (int unknown : Numbers.unknowns()) {
             NaiveNulls x = reader(0);
             x.atom(1, 20, 20);
@@ -126,7 +123,6 @@ final class TableEdgesTest {
     }
 
     private static void newTables() {
-        due.sentence("Promise 1", "Empty tables");
         for (int table : Numbers.tables()) {
             due.is("dropRow(" + table + ")", -1, new NaiveNulls().dropRow(table));
             due.is("addRow(" + table + ", 0, 0)", 1, new NaiveNulls().addRow(table, 0, 0));
@@ -142,7 +138,6 @@ final class TableEdgesTest {
     }
 
     private static void newRules() {
-        due.sentence("Promise 1", "no rules");
         due.is("dropRules", 0, new NaiveNulls().dropRules());
         due.is("atom", -3, new NaiveNulls().atom(0, 0, 0));
         due.is("rule", 1, new NaiveNulls().rule(0, 0));
@@ -156,7 +151,6 @@ final class TableEdgesTest {
     }
 
     private static void atTheEnd() {
-        due.sentence("Promise 2", "Adds a row at the end of a table.");
         for (int table : Numbers.tables()) {
             NaiveNulls x = reader(table);
             for (int n = 0; n < 5; n++) {
@@ -180,7 +174,6 @@ final class TableEdgesTest {
     }
 
     private static void addRowWrongTable() {
-        due.sentence("Promise 2", "table outside 0..1 [...]: BAD");
         int[] wrong = Numbers.outside(Numbers.tables());
         Consumer<NaiveNulls> calls = x -> {
             for (int table : wrong) {
@@ -193,7 +186,6 @@ final class TableEdgesTest {
     }
 
     private static void addRowWrongX() {
-        due.sentence("Promise 2", "x [...] neither 0 to 3 nor 10 to 12: BAD");
         int[] wrong = Numbers.outside(Numbers.rowValues());
         for (int table : Numbers.tables()) {
             Consumer<NaiveNulls> calls = x -> {
@@ -207,7 +199,6 @@ final class TableEdgesTest {
     }
 
     private static void addRowWrongY() {
-        due.sentence("Promise 2", "or y neither 0 to 3 nor 10 to 12: BAD");
         int[] wrong = Numbers.outside(Numbers.rowValues());
         for (int table : Numbers.tables()) {
             Consumer<NaiveNulls> calls = x -> {
@@ -221,7 +212,6 @@ final class TableEdgesTest {
     }
 
     private static void addRowEdgesOfX() {
-        due.sentence("Promise 2, what is taken", "x [...] 0 to 3 [...] 10 to 12");
         for (int table : Numbers.tables()) {
             for (int value : new int[] {0, 3, 10, 12}) {
                 NaiveNulls x = reader(table);
@@ -235,7 +225,6 @@ final class TableEdgesTest {
     }
 
     private static void addRowEdgesOfY() {
-        due.sentence("Promise 2, what is taken", "y [...] 0 to 3 [...] 10 to 12");
         for (int table : Numbers.tables()) {
             for (int value : new int[] {0, 3, 10, 12}) {
                 NaiveNulls x = reader(table);
@@ -249,7 +238,6 @@ final class TableEdgesTest {
     }
 
     private static void addRowFull() {
-        due.sentence("Promise 2", "5 rows are there: FULL");
         for (int table : Numbers.tables()) {
             NaiveNulls x = reader(table);
             for (int n = 1; n <= 5; n++) {
@@ -272,7 +260,6 @@ final class TableEdgesTest {
     }
 
     private static void addRowNumber() {
-        due.sentence("Promise 2", "Else answers the table's number of rows.");
         NaiveNulls x = new NaiveNulls();
         due.is("first row of table 0", 1, x.addRow(0, 1, 1));
         due.is("second row of table 0", 2, x.addRow(0, 1, 1));
@@ -292,7 +279,6 @@ final class TableEdgesTest {
     }
 
     private static void equalRows() {
-        due.sentence("Promise 2", "(Equal rows may be there more than once.)");
         int[][] rows = {{0, 0}, {3, 1}, {10, 10}, {2, 12}};
         for (int table : Numbers.tables()) {
             for (int[] row : rows) {
@@ -310,7 +296,6 @@ final class TableEdgesTest {
     }
 
     private static void firstRow() {
-        due.sentence("Promise 3", "Takes the first row of a table away");
         int[][] rows = {{2, 10}, {0, 0}, {10, 1}, {3, 3}, {0, 2}};
         for (int table : Numbers.tables()) {
             for (int dropped = 0; dropped <= 5; dropped++) {
@@ -338,7 +323,6 @@ final class TableEdgesTest {
     }
 
     private static void rowsLeft() {
-        due.sentence("Promise 3", "answers the number of rows left");
         for (int table : Numbers.tables()) {
             for (int rows = 1; rows <= 5; rows++) {
                 NaiveNulls x = new NaiveNulls();
@@ -355,7 +339,6 @@ final class TableEdgesTest {
     }
 
     private static void dropRowWrongTable() {
-        due.sentence("Promise 3", "table outside 0..1 [...]: BAD");
         int[] wrong = Numbers.outside(Numbers.tables());
         Consumer<NaiveNulls> calls = x -> {
             for (int table : wrong) {
@@ -368,7 +351,6 @@ final class TableEdgesTest {
     }
 
     private static void dropRowEmpty() {
-        due.sentence("Promise 3", "or the table is empty: BAD");
         for (int table : Numbers.tables()) {
             Consumer<NaiveNulls> otherFull = x -> {
                 for (int i = 0; i < 5; i++) {
@@ -395,7 +377,6 @@ final class TableEdgesTest {
     }
 
     private static void learnEdges() {
-        due.sentence("Promise 4", "Puts a constant from 0 to 3 in place of an unknown");
         for (int unknown : Numbers.unknowns()) {
             for (int constant : Numbers.written()) {
                 NaiveNulls x = reader(0);
@@ -411,7 +392,6 @@ final class TableEdgesTest {
     }
 
     private static void learnEverywhere() {
-        due.sentence("Promise 4", "everywhere in both tables");
         for (int unknown : Numbers.unknowns()) {
             for (int constant : new int[] {0, 3}) {
                 Consumer<NaiveNulls> learnt = x -> {
@@ -443,7 +423,6 @@ final class TableEdgesTest {
     }
 
     private static void learnWrongUnknown() {
-        due.sentence("Promise 4", "unknown outside 10..12 [...]: BAD");
         int[] wrong = Numbers.outside(Numbers.unknowns());
         Consumer<NaiveNulls> calls = x -> {
             for (int unknown : wrong) {
@@ -455,7 +434,6 @@ final class TableEdgesTest {
     }
 
     private static void learnWrongConstant() {
-        due.sentence("Promise 4", "or constant outside 0..3: BAD");
         int[] wrong = Numbers.outside(Numbers.written());
         for (int unknown : Numbers.unknowns()) {
             Consumer<NaiveNulls> calls = x -> {
@@ -471,7 +449,6 @@ final class TableEdgesTest {
     }
 
     private static void learnPlaces() {
-        due.sentence("Promise 4", "Else answers the number of places that had the unknown.");
         for (int unknown : Numbers.unknowns()) {
             int other = unknown == 12 ? 10 : unknown + 1;
             due.is("empty tables", 0, new NaiveNulls().learn(unknown, 0));
