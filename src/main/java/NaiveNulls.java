@@ -248,9 +248,11 @@ public final class NaiveNulls {
         }
     }
 
-    // Values and terms were tested when they came in: what isn't a constant is in its range.
+    // Here and in rowsOf, agrees and chosen a kept number is looked at again before it is an index,
+    // without isUnknown, isTable or isVariable, so that calls stay five deep.
     private int completed(int value) {
-        return value >= FIRST_UNKNOWN ? given[value - FIRST_UNKNOWN] : value;
+        int unknown = value - FIRST_UNKNOWN;
+        return unknown >= 0 && unknown < UNKNOWNS ? given[unknown] : value;
     }
 
     private boolean isSafe(int rule) {
@@ -274,9 +276,13 @@ public final class NaiveNulls {
     private int rowChoices(int rule) {
         int choices = 1;
         for (int i = 0; i < atomCount[rule]; i++) {
-            choices *= rowCount[atomTable[rule * MAX_ATOMS + i]];
+            choices *= rowsOf(atomTable[rule * MAX_ATOMS + i]);
         }
         return choices;
+    }
+
+    private int rowsOf(int table) {
+        return table >= 0 && table < TABLES ? rowCount[table] : 0;
     }
 
     // The number of a choice is read as digits, one row for each atom.
@@ -288,7 +294,7 @@ public final class NaiveNulls {
         for (int i = 0; i < atomCount[rule]; i++) {
             int slot = rule * MAX_ATOMS + i;
             int table = atomTable[slot];
-            int rows = rowCount[table];
+            int rows = rowsOf(table);
             if (rows == 0) {
                 return false;
             }
@@ -302,10 +308,10 @@ public final class NaiveNulls {
     }
 
     private boolean agrees(int term, int constant) {
-        if (term < FIRST_VARIABLE) {
+        int variable = term - FIRST_VARIABLE;
+        if (variable < 0 || variable >= VARIABLES) {
             return term == constant;
         }
-        int variable = term - FIRST_VARIABLE;
         if (bound[variable] == UNBOUND) {
             bound[variable] = constant;
         }
@@ -319,6 +325,7 @@ public final class NaiveNulls {
     }
 
     private int chosen(int term) {
-        return term < FIRST_VARIABLE ? term : bound[term - FIRST_VARIABLE];
+        int variable = term - FIRST_VARIABLE;
+        return variable >= 0 && variable < VARIABLES ? bound[variable] : term;
     }
 }

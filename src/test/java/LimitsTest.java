@@ -1,3 +1,6 @@
+import java.lang.reflect.Field;
+import java.util.Arrays;
+
 /** No call throws, whatever its arguments are and however full the object is. */
 final class LimitsTest {
     private static final int[] ODD = {
@@ -6,9 +9,14 @@ final class LimitsTest {
 
     private static final Due due = new Due();
 
-    public static void main(String[] args) {
+    private static final String[] VALUES = {"rowX", "rowY"};
+    private static final String[] TERMS = {"headX", "headY", "atomX", "atomY"};
+    private static final String[] TABLES = {"atomTable"};
+
+    public static void main(String[] args) throws ReflectiveOperationException {
         oddArguments();
         fullestQuery();
+        keptNumbersAreLookedAt();
         due.end();
     }
 
@@ -56,5 +64,55 @@ final class LimitsTest {
         }
         due.yes("alwaysSome", x.alwaysSome());
         due.is("certainCount", 0, x.certainCount());
+    }
+
+    /**
+     * A number that was kept is looked at again before it is an index. No run of calls can show this,
+     * since odd numbers are refused when they come in: so they are put in place behind the calls.
+     */
+    private static void keptNumbersAreLookedAt() throws ReflectiveOperationException {
+        for (int odd : ODD) {
+            NaiveNulls rows = oneRowOneAtom();
+            fill(rows, VALUES, odd);
+            due.no("a query over rows of " + odd + " throws", queriesThrow(rows));
+            NaiveNulls terms = oneRowOneAtom();
+            fill(terms, TERMS, odd);
+            due.no("a query of terms " + odd + " throws", queriesThrow(terms));
+            NaiveNulls tables = oneRowOneAtom();
+            fill(tables, TABLES, odd);
+            due.no("a query of table " + odd + " throws", queriesThrow(tables));
+            NaiveNulls both = oneRowOneAtom();
+            fill(both, VALUES, odd);
+            fill(both, TERMS, odd);
+            due.no("a query of terms " + odd + " over rows of " + odd + " throws", queriesThrow(both));
+        }
+    }
+
+    private static NaiveNulls oneRowOneAtom() {
+        NaiveNulls x = new NaiveNulls();
+        x.addRow(0, 0, 0);
+        x.rule(20, 20);
+        x.atom(0, 20, 20);
+        return x;
+    }
+
+    private static void fill(NaiveNulls x, String[] fields, int number) throws ReflectiveOperationException {
+        for (String name : fields) {
+            Field field = NaiveNulls.class.getDeclaredField(name);
+            field.setAccessible(true);
+            Arrays.fill((int[]) field.get(x), number);
+        }
+    }
+
+    private static boolean queriesThrow(NaiveNulls x) {
+        try {
+            x.certain(0, 0);
+            x.possible(0, 0);
+            x.certainCount();
+            x.alwaysSome();
+            return false;
+        } catch (RuntimeException thrown) {
+            return true;
+        }
     }
 }
